@@ -1,5 +1,6 @@
 import java.util.ArrayDeque;
 import java.util.ArrayList;
+import java.util.Arrays;
 import java.util.Collections;
 import java.util.Deque;
 import java.util.HashSet;
@@ -100,7 +101,7 @@ final class CardModel {
         }
         Set<State> seen = new HashSet<>();
         int[] depths = new int[16];
-        java.util.Arrays.fill(depths, -1);
+        Arrays.fill(depths, -1);
         Deque<State> open = new ArrayDeque<>();
         open.add(new State(0, "", "nu"));
         while (!open.isEmpty()) {
@@ -134,9 +135,9 @@ final class CardModel {
     }
 
     /** What each instruction takes (n number, r reference, ? either; the last is the top) and adds. */
-    private static final String[] TAKES = {"", "", "?", "nn", "nn", "nn", "nn", "", "n", "", "r", "n", "rn", "rnn", "r", "r",
+    static final String[] TAKES = {"", "", "?", "nn", "nn", "nn", "nn", "", "n", "", "r", "n", "rn", "rnn", "r", "r",
         "", "", "n", "n", "?", "?", "", "", ""};
-    private static final String[] ADDS = {"n", "", "", "n", "n", "n", "n", "", "", "r", "", "r", "n", "", "", "n", "r", "r",
+    static final String[] ADDS = {"n", "", "", "n", "n", "n", "n", "", "", "r", "", "r", "n", "", "", "n", "r", "r",
         "n", "", "", "", "", "", ""};
 
     private static boolean follow(Instruction instruction, State state, Deque<State> open) {

@@ -189,6 +189,12 @@ final class InstallTest extends Support {
         bad("set to both kinds, taken as a reference", LOAD, 0, JZERO, 5, PUSH, 1, STORE, 1, JUMP, 7, NULL, 0, STORE, 1,
             LOAD, 1, LENGTH, 0, RETURN, 0);
         bad("the second round finds a reference", LOAD, 0, JZERO, 4, NULL, 0, STORE, 0, JUMP, 0);
+        bad("the third round finds a reference", PUSH, 1, STORE, 1, LOAD, 0, JZERO, 4, LOAD, 1, STORE, 0, NULL, 0, STORE, 1, JUMP, 2);
+        good("the third round finds a number", PUSH, 1, STORE, 1, LOAD, 0, JZERO, 4, LOAD, 1, STORE, 0, PUSH, 0, STORE, 1, JUMP, 2);
+        bad("the fourth round finds a reference", PUSH, 1, STORE, 1, PUSH, 1, LOAD, 0, JZERO, 5, STORE, 0, LOAD, 1, NULL, 0,
+            STORE, 1, JUMP, 3);
+        good("the fourth round finds a number", PUSH, 1, STORE, 1, PUSH, 1, LOAD, 0, JZERO, 5, STORE, 0, LOAD, 1, PUSH, 0,
+            STORE, 1, JUMP, 3);
         good("the second round sets again", LOAD, 0, JZERO, 0, PUSH, 1, STORE, 0, JUMP, 0);
     }
 

@@ -227,9 +227,9 @@ final class ModelTest extends Support {
 
     private static void putFollowed(int op, int b) {
         putBoth(op, b);
-        String takes = TAKES[op];
+        String takes = CardModel.TAKES[op];
         String taken = stack.substring(stack.length() - takes.length());
-        stack = stack.substring(0, stack.length() - takes.length()) + ADDS[op];
+        stack = stack.substring(0, stack.length() - takes.length()) + CardModel.ADDS[op];
         if (op == LOAD) {
             stack += locals.charAt(b & 1);
         } else if (op == STORE) {
@@ -252,11 +252,6 @@ final class ModelTest extends Support {
         }
     }
 
-    private static final String[] TAKES = {"", "", "?", "nn", "nn", "nn", "nn", "", "n", "", "r", "n", "rn", "rnn", "r", "r",
-        "", "", "n", "n", "?", "?", "", "", ""};
-    private static final String[] ADDS = {"n", "", "", "n", "n", "n", "n", "", "", "r", "", "r", "n", "", "", "n", "r", "r",
-        "n", "", "", "", "", "", ""};
-
     private static int fittingOp() {
         for (int time = 0; time < 60; time++) {
             int op = pick(OPS);
@@ -265,13 +260,13 @@ final class ModelTest extends Support {
             if (rare && !oneIn(5) || nests && !oneIn(25)) {
                 continue;
             }
-            String takes = TAKES[op];
+            String takes = CardModel.TAKES[op];
             boolean fits = stack.length() >= takes.length();
             for (int i = 0; i < takes.length() && fits; i++) {
                 char wanted = takes.charAt(i);
                 fits = wanted == '?' || wanted == stack.charAt(stack.length() - takes.length() + i);
             }
-            int added = op == LOAD ? 1 : op == DUP ? 2 : ADDS[op].length();
+            int added = op == LOAD ? 1 : op == DUP ? 2 : CardModel.ADDS[op].length();
             if (fits && stack.length() - takes.length() + added <= 4) {
                 return op;
             }

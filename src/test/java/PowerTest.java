@@ -10,6 +10,7 @@ final class PowerTest extends Support {
         failuresAreNoWrites();
         tornInTransactions();
         passingElements();
+        everyPassingObject();
         resetAlone();
         end();
     }
@@ -185,6 +186,36 @@ final class PowerTest extends Support {
         due("the objects stay", card.length(0, 1), 2);
         due("the objects stay", card.traits(1, 0), 4);
         due("lasting elements stay", card.element(0, 0, 0), 5);
+    }
+
+    /** Six passing objects in the roots, and then one that was made while seven others were held. */
+    private static void everyPassingObject() {
+        TearSafeCard card = new TearSafeCard(250);
+        for (int number = 0; number < 6; number++) {
+            fillPassing(card, number, PUSH, 0, DROP, 0);
+        }
+        dueAllPassing("before", card, 8);
+        card.reset();
+        dueAllPassing("after reset", card, 0);
+        fillPassing(card, 4, PUSH, 1, NEW, 0);
+        due("the eighth object's element", card.element(2, 0, 3), 8);
+        card.reset();
+        due("the eighth object's element after reset", card.element(2, 0, 3), 0);
+        due("the eighth object's length", card.length(2, 0), 4);
+    }
+
+    private static void fillPassing(TearSafeCard card, int number, int op1, int b1, int op2, int b2) {
+        int root = number % 2;
+        loadGood(card, number / 2, 0, true, op1, b1, op2, b2, PUSH, 4, NEW, 1, SETROOT, root, ROOT, root, PUSH, 3, PUSH, 8, PUT, 0,
+            ROOT, root, PUSH, 0, PUSH, 8, PUT, 0, PUSH, 0, RETURN, 0);
+        dueReturned("a passing object", card, number / 2 * 2, 0, 0);
+    }
+
+    private static void dueAllPassing(String what, TearSafeCard card, int element) {
+        for (int number = 0; number < 6; number++) {
+            due(what + ": first element of " + number, card.element(number / 2, number % 2, 0), element);
+            due(what + ": last element of " + number, card.element(number / 2, number % 2, 3), element);
+        }
     }
 
     private static void resetAlone() {

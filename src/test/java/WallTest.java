@@ -1,3 +1,5 @@
+import java.util.Arrays;
+
 /** Promise 4: the wall between the applets' objects, and which objects are held. */
 final class WallTest extends Support {
     public static void main(String[] args) {
@@ -11,6 +13,8 @@ final class WallTest extends Support {
         heldByLocals();
         heldByCallers();
         heldSinceBegin();
+        heldByEveryWayToAReference();
+        numbersHoldNothing();
         memoryOrder();
         end();
     }
@@ -174,6 +178,57 @@ final class WallTest extends Support {
         loadGood(card, 0, 1, true, BEGIN, 0, NULL, 0, SETROOT, 0, ABORT, 0, PUSH, 1, NEW, 0, PUSH, 1, NEW, 0, PUSH, 1, NEW, 0,
             LENGTH, 0, RETURN, 0);
         dueFailed("after ABORT the roots hold", card, 1, 0, TearSafeCard.MEMORY, 9);
+    }
+
+    /** A reference goes on holding its object when the root that it came from has let go. */
+    private static void heldByEveryWayToAReference() {
+        dueHolds("ROOT", ROOT, 0, DUP, 0, DROP, 0, BEGIN, 0, COMMIT, 0);
+        dueHolds("FOREIGN", FOREIGN, 0, DUP, 0, DROP, 0, BEGIN, 0, COMMIT, 0);
+        dueHolds("DUP", ROOT, 0, DUP, 0, STORE, 0, PUSH, 0, STORE, 0);
+        dueHolds("STORE 1", ROOT, 0, STORE, 1, PUSH, 0, DUP, 0, DROP, 0);
+        dueHolds("STORE 0 and LOAD", ROOT, 0, STORE, 0, LOAD, 0, PUSH, 0, STORE, 0);
+    }
+
+    private static void dueHolds(String what, int... first) {
+        TearSafeCard card = sixRoots();
+        int[] then = {NULL, 0, SETROOT, 0, PUSH, 1, NEW, 0, PUSH, 1, NEW, 0, STORE, 0, PUSH, 1, NEW, 0, LENGTH, 0, RETURN, 0};
+        int[] code = Arrays.copyOf(first, first.length + then.length);
+        System.arraycopy(then, 0, code, first.length, then.length);
+        loadGood(card, 0, 1, true, code);
+        dueFailed(what + " holds", card, 1, 0, TearSafeCard.MEMORY, first.length / 2 + 8);
+    }
+
+    /** No number, however it came to be, is looked at as if it referred to something. */
+    private static void numbersHoldNothing() {
+        int[] numbers = {-32768, -1, 7, 8, 9, 100, 32767};
+        for (int number : numbers) {
+            TearSafeCard card = sixRoots();
+            loadGood(card, 1, 1, true, LOAD, 0, RETURN, 0);
+            loadGood(card, 0, 1, true, LOAD, 0, CALL, 3, LOAD, 0, PUSH, 0, SUB, 0, STORE, 1, PUSH, 1, NEW, 0, PUSH, 2, NEW, 0,
+                LENGTH, 0, RETURN, 0);
+            dueReturned("a call's answer, a difference and an argument " + number, card, 1, number, 2);
+            loadGood(card, 0, 1, true, PUSH, 1, NEW, 0, DUP, 0, PUSH, 0, LOAD, 0, PUT, 0, PUSH, 0, GET, 0, PUSH, 1, NEW, 0,
+                PUSH, 3, NEW, 0, LENGTH, 0, RETURN, 0);
+            dueReturned("an element " + number, card, 1, number, 3);
+        }
+        TearSafeCard card = sixRoots();
+        loadGood(card, 1, 0, true, PUSH, 4, NEW, 0, DUP, 0, SHARE, 0, SETROOT, 1, NULL, 0, SETROOT, 0, PUSH, 0, RETURN, 0);
+        dueReturned("an object of length 4 in place of two", card, 2, 0, 0);
+        loadGood(card, 0, 1, true, FOREIGN, 3, LENGTH, 0, PUSH, 1, NEW, 0, PUSH, 1, NEW, 0, NULL, 0, SETROOT, 0, PUSH, 1, NEW, 0,
+            LENGTH, 0, RETURN, 0);
+        dueReturned("a length", card, 1, 0, 1);
+        endedMethodsHoldNothing();
+    }
+
+    /** A number put where an ended method had a reference is a number; what that method left behind is nothing. */
+    private static void endedMethodsHoldNothing() {
+        TearSafeCard card = sixRoots();
+        loadGood(card, 0, 0, true, PUSH, 0, CALL, 1, PUSH, 77, CALL, 3, RETURN, 0);
+        loadGood(card, 0, 1, true, PUSH, 1, NEW, 0, STORE, 0, PUSH, 1, NEW, 0, STORE, 1, PUSH, 0, RETURN, 0);
+        loadGood(card, 1, 1, true, PUSH, 1, NEW, 0, PUSH, 3, NEW, 0, LENGTH, 0, RETURN, 0);
+        dueReturned("references in an ended method's locals", card, 0, 0, 3);
+        loadGood(card, 0, 1, true, PUSH, 1, NEW, 0, PUSH, 1, NEW, 0, PUSH, 0, RETURN, 0);
+        dueReturned("references in an ended method's stack", card, 0, 0, 3);
     }
 
     private static void memoryOrder() {
