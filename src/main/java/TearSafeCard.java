@@ -56,16 +56,21 @@ public final class TearSafeCard {
     private static final int METHODS = APPLETS * PER_APPLET;
     private static final int ROOTS = APPLETS * PER_APPLET;
     private static final int CODE_SIZE = 16;
+    private static final int LINES = METHODS * CODE_SIZE;
 
     private static final int NOTHING = 0;
     private static final int OBJECTS = 8;
+    private static final int OBJECT_NUMBERS = OBJECTS + 1;
     private static final int OBJECT_SIZE = 4;
+    private static final int ELEMENTS = OBJECT_NUMBERS * OBJECT_SIZE;
 
     private static final int FRAMES = 4;
     private static final int LOCALS = 2;
     private static final int STACK_SIZE = 4;
     /** A frame's cells: first its locals, then its stack from the bottom up. */
     private static final int CELLS = LOCALS + STACK_SIZE;
+    private static final int FRAME_CELLS = FRAMES * CELLS;
+    private static final int WAY_CELLS = CODE_SIZE * CELLS;
 
     /** What a cell may hold, as bits: the ways to one instruction may bring different kinds. */
     private static final int NUMBER = 1;
@@ -89,38 +94,38 @@ public final class TearSafeCard {
     private int pendingCount;
 
     private final int[] wayDepth = new int[CODE_SIZE];
-    private final int[] wayKind = new int[CODE_SIZE * CELLS];
+    private final int[] wayKind = new int[WAY_CELLS];
     private final int[] nowKind = new int[CELLS];
     private int nowDepth;
     private boolean wayChanged;
 
-    private final int[] codeOp = new int[METHODS * CODE_SIZE];
-    private final int[] codeB = new int[METHODS * CODE_SIZE];
+    private final int[] codeOp = new int[LINES];
+    private final int[] codeB = new int[LINES];
     /** 0 where the method is absent. */
     private final int[] methodLength = new int[METHODS];
     private final boolean[] methodExported = new boolean[METHODS];
 
     private final int[] rootObject = new int[ROOTS];
-    private final int[] objectOwner = new int[OBJECTS + 1];
-    private final int[] objectLength = new int[OBJECTS + 1];
-    private final boolean[] objectLasting = new boolean[OBJECTS + 1];
-    private final boolean[] objectShared = new boolean[OBJECTS + 1];
-    private final int[] objectElement = new int[(OBJECTS + 1) * OBJECT_SIZE];
-    private final boolean[] objectHeld = new boolean[OBJECTS + 1];
+    private final int[] objectOwner = new int[OBJECT_NUMBERS];
+    private final int[] objectLength = new int[OBJECT_NUMBERS];
+    private final boolean[] objectLasting = new boolean[OBJECT_NUMBERS];
+    private final boolean[] objectShared = new boolean[OBJECT_NUMBERS];
+    private final int[] objectElement = new int[ELEMENTS];
+    private final boolean[] objectHeld = new boolean[OBJECT_NUMBERS];
 
     private boolean inTransaction;
     private final int[] savedRoot = new int[ROOTS];
-    private final boolean[] savedShared = new boolean[OBJECTS + 1];
-    private final int[] savedElement = new int[(OBJECTS + 1) * OBJECT_SIZE];
+    private final boolean[] savedShared = new boolean[OBJECT_NUMBERS];
+    private final int[] savedElement = new int[ELEMENTS];
     /** An object made since BEGIN may bear the number of one that is gone, which must not come back. */
-    private final boolean[] madeSince = new boolean[OBJECTS + 1];
+    private final boolean[] madeSince = new boolean[OBJECT_NUMBERS];
 
     private int frameCount;
     private final int[] frameMethod = new int[FRAMES];
     private final int[] frameAt = new int[FRAMES];
     private final int[] frameDepth = new int[FRAMES];
-    private final int[] cellValue = new int[FRAMES * CELLS];
-    private final boolean[] cellRefers = new boolean[FRAMES * CELLS];
+    private final int[] cellValue = new int[FRAME_CELLS];
+    private final boolean[] cellRefers = new boolean[FRAME_CELLS];
 
     private int writesBeforeTear = NOT_AWAITED;
     private int lastAnswer;
@@ -300,7 +305,7 @@ public final class TearSafeCard {
         for (int at = 0; at < CODE_SIZE; at++) {
             wayDepth[at] = UNREACHED;
         }
-        for (int cell = 0; cell < CODE_SIZE * CELLS; cell++) {
+        for (int cell = 0; cell < WAY_CELLS; cell++) {
             wayKind[cell] = 0;
         }
         wayDepth[0] = 0;
@@ -631,7 +636,7 @@ public final class TearSafeCard {
     private void performOnObjects(int op, int b) {
         switch (op) {
             case OP_ROOT:
-                push(rootObject[PER_APPLET * ownApplet() + b], true);
+                pushOwnRoot(b);
                 break;
             case OP_FOREIGN:
                 push(rootObject[b], true);
@@ -756,6 +761,11 @@ public final class TearSafeCard {
         push(object, true);
     }
 
+    private void pushOwnRoot(int b) {
+        int root = PER_APPLET * ownApplet() + b;
+        push(rootObject[root], true);
+    }
+
     private void getElement() {
         int index = pop();
         int object = pop();
@@ -825,7 +835,7 @@ public final class TearSafeCard {
             savedShared[object] = objectShared[object];
             madeSince[object] = false;
         }
-        for (int index = 0; index < (OBJECTS + 1) * OBJECT_SIZE; index++) {
+        for (int index = 0; index < ELEMENTS; index++) {
             savedElement[index] = objectElement[index];
         }
     }
