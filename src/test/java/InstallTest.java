@@ -17,14 +17,6 @@ final class InstallTest extends Support {
         end();
     }
 
-    private static void good(String what, int... code) {
-        due(what, load(new TearSafeCard(100), 1, 1, true, code), code.length / 2);
-    }
-
-    private static void bad(String what, int... code) {
-        due(what, load(new TearSafeCard(100), 1, 1, true, code), BAD);
-    }
-
     private static void refused() {
         int[][] wrong = {{-1, 0}, {3, 0}, {0, -1}, {0, 2}, {2, 2}, {3, 1}, {0, 3}, {1, 4},
             {Integer.MIN_VALUE, 0}, {Integer.MAX_VALUE, 0}, {0, Integer.MIN_VALUE}, {0, Integer.MAX_VALUE}};
@@ -76,24 +68,16 @@ final class InstallTest extends Support {
         for (int b : tried) {
             boolean two = b == 0 || b == 1;
             boolean six = b >= 0 && b <= 5;
-            either("PUSH " + b, b >= -128 && b <= 127, PUSH, b, RETURN, 0);
-            either("LOAD " + b, two, PUSH, 1, STORE, 1, LOAD, b, RETURN, 0);
-            either("STORE " + b, two, PUSH, 1, STORE, b, LOAD, 0, RETURN, 0);
-            either("ROOT " + b, two, ROOT, b, PUSH, 0, RETURN, 0);
-            either("SETROOT " + b, two, NULL, 0, SETROOT, b, PUSH, 0, RETURN, 0);
-            either("NEW " + b, two, PUSH, 1, NEW, b, PUSH, 0, RETURN, 0);
-            either("FOREIGN " + b, six, FOREIGN, b, PUSH, 0, RETURN, 0);
-            either("CALL " + b, six, PUSH, 0, CALL, b, RETURN, 0);
-            either("JUMP " + b, b >= 0 && b <= 3, BEGIN, 0, JUMP, b, COMMIT, 0, JUMP, 0);
-            either("JZERO " + b, b == 0 || b == 1 || b == 3, BEGIN, 0, PUSH, 0, JZERO, b, JUMP, 0);
-        }
-    }
-
-    private static void either(String what, boolean isGood, int... code) {
-        if (isGood) {
-            good(what, code);
-        } else {
-            bad(what, code);
+            goodOrBad("PUSH " + b, b >= -128 && b <= 127, PUSH, b, RETURN, 0);
+            goodOrBad("LOAD " + b, two, PUSH, 1, STORE, 1, LOAD, b, RETURN, 0);
+            goodOrBad("STORE " + b, two, PUSH, 1, STORE, b, LOAD, 0, RETURN, 0);
+            goodOrBad("ROOT " + b, two, ROOT, b, PUSH, 0, RETURN, 0);
+            goodOrBad("SETROOT " + b, two, NULL, 0, SETROOT, b, PUSH, 0, RETURN, 0);
+            goodOrBad("NEW " + b, two, PUSH, 1, NEW, b, PUSH, 0, RETURN, 0);
+            goodOrBad("FOREIGN " + b, six, FOREIGN, b, PUSH, 0, RETURN, 0);
+            goodOrBad("CALL " + b, six, PUSH, 0, CALL, b, RETURN, 0);
+            goodOrBad("JUMP " + b, b >= 0 && b <= 3, BEGIN, 0, JUMP, b, COMMIT, 0, JUMP, 0);
+            goodOrBad("JZERO " + b, b == 0 || b == 1 || b == 3, BEGIN, 0, PUSH, 0, JZERO, b, JUMP, 0);
         }
     }
 

@@ -7,7 +7,10 @@ import java.util.List;
  */
 final class ModelTest extends Support {
     private static final int CARDS = 30_000;
+    /** What the document promises an object for. */
     private static final int CALLS = 512;
+    /** More than any step of oneCard needs: a run, with a look at all roots after it. */
+    private static final int LONGEST_STEP = 64;
     private static final int OPS = 25;
 
     private static long seed;
@@ -73,7 +76,7 @@ final class ModelTest extends Support {
             installSome(applet, 0);
             installSome(applet, 1);
         }
-        while (calls < CALLS && !differed) {
+        while (calls < CALLS - 2 * LONGEST_STEP && !differed) {
             int kind = pick(20);
             if (kind < 3) {
                 int applet = number(3);
@@ -92,6 +95,10 @@ final class ModelTest extends Support {
                 lookAtOne();
             }
         }
+        lookAtAll();
+        while (calls < CALLS && !differed) {
+            runOne();
+        }
     }
 
     private static void answered(String call, long got, long want) {
@@ -108,7 +115,7 @@ final class ModelTest extends Support {
         return oneIn(60) ? pick(9) - 3 : pick(count);
     }
 
-    private static void runSome() {
+    private static void runOne() {
         int applet = number(3);
         int method = number(2);
         int arg = oneIn(3) ? pick(200_000) - 100_000 : pick(5);
@@ -117,9 +124,13 @@ final class ModelTest extends Support {
         if (got >= 0) {
             outcomes[got]++;
         }
+    }
+
+    private static void runSome() {
+        runOne();
         answered("result()", card.result(), model.result());
         answered("place()", card.place(), model.place());
-        if (oneIn(3)) {
+        if (oneIn(6)) {
             lookAtAll();
         }
     }
@@ -138,9 +149,7 @@ final class ModelTest extends Support {
         answered("held()", card.held(), model.held());
     }
 
-    /** Looking changes nothing, so this is not counted among the calls. */
     private static void lookAtAll() {
-        int before = calls;
         for (int root = 0; root < 6; root++) {
             String where = "(" + root / 2 + ", " + root % 2;
             answered("traits" + where + ")", card.traits(root / 2, root % 2), model.traits(root / 2, root % 2));
@@ -155,7 +164,6 @@ final class ModelTest extends Support {
             }
         }
         answered("held()", card.held(), model.held());
-        calls = before;
     }
 
     /** With null roots alone, most runs would fail early. */

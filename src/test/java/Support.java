@@ -1,3 +1,6 @@
+import java.util.stream.IntStream;
+import java.util.stream.Stream;
+
 /** What the tests share: the instructions' names, and the counting of answers that are not as due. */
 class Support {
     static final int PUSH = 0;
@@ -28,6 +31,31 @@ class Support {
 
     private static int asked;
     private static int wrong;
+
+    private static String sentence = "";
+    private static int sentences;
+    private static int askedBefore;
+    private static int wrongBefore;
+
+    /** What is asked from here on is due by these words of the document, until the next ones are told. */
+    static void sentence(String words) {
+        endSentence();
+        sentence = words;
+        sentences++;
+        askedBefore = asked;
+        wrongBefore = wrong;
+    }
+
+    private static void endSentence() {
+        if (sentence.isEmpty()) {
+            return;
+        }
+        due("a test of its own", asked > askedBefore, true);
+        if (wrong > wrongBefore) {
+            System.out.println("BROKEN: " + sentence);
+        }
+        sentence = "";
+    }
 
     static void due(String what, long got, long want) {
         asked++;
@@ -70,8 +98,55 @@ class Support {
         dueRun(what, card, number, arg, outcome, 0, 16 * number + at);
     }
 
+    /** Asks that the code is taken in, by a card of its own. */
+    static void good(String what, int... code) {
+        due(what, load(new TearSafeCard(100), 1, 1, true, code), code.length / 2);
+    }
+
+    static void bad(String what, int... code) {
+        due(what, load(new TearSafeCard(100), 1, 1, true, code), TearSafeCard.BAD);
+    }
+
+    static void goodOrBad(String what, boolean isGood, int... code) {
+        if (isGood) {
+            good(what, code);
+        } else {
+            bad(what, code);
+        }
+    }
+
+    /** One code after the other. */
+    static int[] join(int[]... parts) {
+        return Stream.of(parts).flatMapToInt(IntStream::of).toArray();
+    }
+
+    static int[] code(int... code) {
+        return code;
+    }
+
+    /** The same instruction, count times. */
+    static int[] times(int count, int op, int b) {
+        int[] code = new int[2 * count];
+        for (int at = 0; at < count; at++) {
+            code[2 * at] = op;
+            code[2 * at + 1] = b;
+        }
+        return code;
+    }
+
+    /** Sets all six roots to new private, lasting objects, of length 1 in root 0 and of length 2 in root 1. */
+    static void fillRoots(TearSafeCard card) {
+        for (int applet = 0; applet < 3; applet++) {
+            loadGood(card, applet, 0, true, PUSH, 1, NEW, 0, SETROOT, 0, PUSH, 2, NEW, 0, SETROOT, 1, PUSH, 0, RETURN, 0);
+            dueReturned("two roots are set", card, 2 * applet, 0, 0);
+        }
+        due("six are held", card.held(), 6);
+    }
+
     static void end() {
-        System.out.println(asked - wrong + " of " + asked + " answers are as due");
+        endSentence();
+        String of = sentences == 0 ? "" : ", by " + sentences + " sentences";
+        System.out.println(asked - wrong + " of " + asked + " answers are as due" + of);
         if (wrong != 0 || asked == 0) {
             System.exit(1);
         }

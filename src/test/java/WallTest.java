@@ -110,14 +110,9 @@ final class WallTest extends Support {
         due("its own root", card.traits(1, 1), 4);
     }
 
-    /** Sets all six roots to new objects of lengths 1 and 2. */
     private static TearSafeCard sixRoots() {
         TearSafeCard card = new TearSafeCard(250);
-        for (int applet = 0; applet < 3; applet++) {
-            loadGood(card, applet, 0, true, PUSH, 1, NEW, 0, SETROOT, 0, PUSH, 2, NEW, 0, SETROOT, 1, PUSH, 0, RETURN, 0);
-            dueReturned("two roots are set", card, 2 * applet, 0, 0);
-        }
-        due("six are held", card.held(), 6);
+        fillRoots(card);
         return card;
     }
 
