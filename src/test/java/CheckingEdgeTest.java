@@ -36,8 +36,13 @@ final class CheckingEdgeTest extends Support {
 
     /** The entries, the instruction, and then a round that never ends, which any stack is good for. */
     private static int[] around(String kinds, int op) {
-        int next = kinds.length() + 1;
-        return join(entries(kinds), code(op, op == JUMP || op == JZERO ? next : 0), code(JUMP, next));
+        return after(code(), kinds, op);
+    }
+
+    /** As around, with other code before. */
+    private static int[] after(int[] before, String kinds, int op) {
+        int next = before.length / 2 + kinds.length() + 1;
+        return join(before, entries(kinds), code(op, op == JUMP || op == JZERO ? next : 0), code(JUMP, next));
     }
 
     private static void everyB() {
@@ -132,6 +137,9 @@ final class CheckingEdgeTest extends Support {
             }
             for (int fewer = 1; fewer <= kinds.length(); fewer++) {
                 bad(fewer + " fewer than op " + op + " takes", around(kinds.substring(fewer), op));
+                bad("the same with a number in local 1", after(code(PUSH, 1, STORE, 1), kinds.substring(fewer), op));
+                bad("the same with references in the locals",
+                    after(code(NULL, 0, DUP, 0, STORE, 0, STORE, 1), kinds.substring(fewer), op));
             }
             if (kinds.length() + Math.max(0, LEAVES[op].length() - kinds.length()) < 4) {
                 good("a number more than op " + op + " takes", around("n" + kinds, op));

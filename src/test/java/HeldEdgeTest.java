@@ -13,6 +13,7 @@ final class HeldEdgeTest extends Support {
         byLocals();
         byEntries();
         byMethodsBeingRun();
+        notByNumbers();
         othersAreGone();
         goneAfterTheRun();
         end();
@@ -122,6 +123,7 @@ final class HeldEdgeTest extends Support {
             dueSeven("another reference in its place", true, PUSH, 1, NEW, 0, STORE, local, PUSH, 1, NEW, 0, STORE, local);
             dueSeven("a root's object in its place", false, PUSH, 1, NEW, 0, STORE, local, ROOT, 1, STORE, local);
             dueSeven("a reference that was in a root", true, ROOT, 0, STORE, local, PUSH, 1, NEW, 0, NULL, 0, SETROOT, 0);
+            dueSeven("the same by FOREIGN", true, FOREIGN, 1, STORE, local, PUSH, 1, NEW, 0, NULL, 0, SETROOT, 1);
         }
         dueSeven("local 1 when it is unset", false);
     }
@@ -142,7 +144,10 @@ final class HeldEdgeTest extends Support {
         dueFailed("an entry with 2 below it and a local", card, 1, 0, MEMORY, 8);
         loadGood(card, 0, 1, true, PUSH, 1, NEW, 0, STORE, 1, PUSH, 7, PUSH, 7, PUSH, 1, NEW, 0, PUSH, 1, DROP, 0, LENGTH, 0, RETURN, 0);
         dueReturned("the same without a ninth", card, 1, 0, 1);
-        dueSeven("numbers are no references", false, PUSH, 8, STORE, 1, PUSH, 7, PUSH, 8);
+        loadGood(card, 0, 1, true, PUSH, 1, NEW, 0, STORE, 1, PUSH, 3, PUSH, 1, NEW, 0, DROP, 0, NEW, 0, LENGTH, 0, RETURN, 0);
+        dueReturned("one dropped from above the top", card, 1, 0, 3);
+        dueSeven("a copy by DUP", true, PUSH, 1, NEW, 0, DUP, 0, STORE, 1, PUSH, 7, STORE, 1);
+        dueSeven("a copy by LOAD", true, PUSH, 1, NEW, 0, STORE, 1, LOAD, 1, PUSH, 7, STORE, 1);
     }
 
     private static void byMethodsBeingRun() {
@@ -157,12 +162,34 @@ final class HeldEdgeTest extends Support {
             loadGood(card, 1, 0, true, LOAD, 0, CALL, 3, RETURN, 0);
             loadGood(card, 0, 1, true, join(hold, code(PUSH, 0, CALL, 0, RETURN, 0)));
             dueRun("that of a caller's caller's caller", card, 1, 0, MEMORY, 0, 48 + 3);
-            loadGood(card, 2, 1, true, join(hold, code(PUSH, 0, RETURN, 0)));
+            loadGood(card, 2, 1, true, join(hold, code(PUSH, 8, RETURN, 0)));
             loadGood(card, 0, 1, true, join(code(LOAD, 0, CALL, 5, CALL, 5, CALL, 5, DROP, 0), TWO_MORE));
             dueReturned("one that has answered is not being run", card, 1, 0, 3);
             loadGood(card, 0, 1, true, LOAD, 0, CALL, 5, CALL, 3, RETURN, 0);
             dueReturned("nor when another is called in its place", card, 1, 0, 3);
         }
+    }
+
+    /** No number is looked at as if it referred to something, wherever it comes from. */
+    private static void notByNumbers() {
+        sentence("to which a local or entry of a method being run refers");
+        int[] numbers = {-32768, -1, 0, 1, 7, 8, 9, 32767};
+        for (int number : numbers) {
+            TearSafeCard card = sixRoots();
+            loadGood(card, 1, 1, true, LOAD, 0, RETURN, 0);
+            loadGood(card, 0, 1, true, join(code(LOAD, 0, CALL, 3), TWO_MORE));
+            dueReturned("a number called with, and answered", card, 1, number, 3);
+            loadGood(card, 0, 1, true, join(code(LOAD, 0, PUSH, 0, SUB, 0, DUP, 0, STORE, 1), TWO_MORE));
+            dueReturned("a difference, as an entry and a local", card, 1, number, 3);
+            loadGood(card, 0, 1, true, join(code(ROOT, 0, PUSH, 0, LOAD, 0, PUT, 0, ROOT, 0, PUSH, 0, GET, 0), TWO_MORE));
+            dueReturned("an element", card, 1, number, 3);
+        }
+        dueSeven("numbers pushed", false, PUSH, 8, STORE, 1, PUSH, 7, PUSH, 8);
+        TearSafeCard card = sixRoots();
+        loadGood(card, 1, 0, true, PUSH, 4, NEW, 0, DUP, 0, SHARE, 0, SETROOT, 1, NULL, 0, SETROOT, 0, LOAD, 0, RETURN, 0);
+        dueReturned("five objects, with room where the fourth was", card, 2, 0, 0);
+        loadGood(card, 0, 1, true, join(code(FOREIGN, 3, LENGTH, 0, PUSH, 1, NEW, 1), TWO_MORE));
+        dueReturned("a length", card, 1, 0, 3);
     }
 
     private static void othersAreGone() {

@@ -256,6 +256,19 @@ final class PowerEdgeTest extends Support {
         duePassing("filled again", card, 6, 7);
         card.reset();
         duePassing("reset again", card, 0, 0);
+        eighthObject();
+    }
+
+    /** An object is no other for having been made while seven were held. */
+    private static void eighthObject() {
+        TearSafeCard card = new TearSafeCard(250);
+        fillRoots(card);
+        loadGood(card, 2, 1, true, PUSH, 1, NEW, 0, PUSH, 4, NEW, 1, SETROOT, 1, ROOT, 1, PUSH, 3, PUSH, 17, PUT, 0, LOAD, 0, RETURN, 0);
+        dueReturned("an eighth object", card, 5, 0, 0);
+        due("its element", card.element(2, 1, 3), 17);
+        card.reset();
+        due("its element after reset", card.element(2, 1, 3), 0);
+        due("its length after reset", card.length(2, 1), 4);
     }
 
     private static void onlyThen() {

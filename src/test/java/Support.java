@@ -29,6 +29,12 @@ class Support {
     static final int COMMIT = 23;
     static final int ABORT = 24;
 
+    /** Applet and method, or applet and root, of which at least one is out of range. */
+    static final int[][] OUT = {{-1, 0}, {-1, 1}, {3, 0}, {3, 1}, {0, -1}, {0, 2}, {1, -1}, {1, 2}, {2, -1}, {2, 2}, {-1, -1}, {3, 2},
+        {-1, 2}, {3, -1}, {0, 4}, {6, 0}, {Integer.MIN_VALUE, 0}, {Integer.MAX_VALUE, 1}, {0, Integer.MIN_VALUE},
+        {2, Integer.MAX_VALUE}, {Integer.MIN_VALUE, Integer.MAX_VALUE}, {Integer.MAX_VALUE, Integer.MIN_VALUE}, {65536, 0}, {0, 65536},
+        {1 << 30, 0}, {1 << 31, 1}, {256, 1}};
+
     private static int asked;
     private static int wrong;
 
@@ -141,6 +147,30 @@ class Support {
             dueReturned("two roots are set", card, 2 * applet, 0, 0);
         }
         due("six are held", card.held(), 6);
+    }
+
+    /** Each root refers to a lasting object of length root + 1, but 4 at most, whose elements are 10 * root + index + 1. */
+    static TearSafeCard fullCard() {
+        TearSafeCard card = new TearSafeCard(100);
+        for (int root = 0; root < 6; root++) {
+            int applet = root / 2;
+            loadGood(card, applet, 0, true, PUSH, size(root), NEW, 0, SETROOT, root % 2, PUSH, 0, RETURN, 0);
+            dueReturned("an object", card, 2 * applet, 0, 0);
+            loadGood(card, applet, 0, true, ROOT, root % 2, LOAD, 0, LOAD, 0, PUSH, 10 * root + 1, ADD, 0, PUT, 0, PUSH, 0, RETURN, 0);
+            for (int index = 0; index < size(root); index++) {
+                due("an element", card.run(applet, 0, index), TearSafeCard.RETURNED);
+            }
+        }
+        return card;
+    }
+
+    /** The length of a root's object on a full card. */
+    static int size(int root) {
+        return root < 4 ? root + 1 : 4;
+    }
+
+    static String at(int[] pair) {
+        return "(" + pair[0] + ", " + pair[1] + ")";
     }
 
     static void end() {

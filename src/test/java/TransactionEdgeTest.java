@@ -10,6 +10,7 @@ final class TransactionEdgeTest extends Support {
         allRoots();
         allElements();
         whatIsShared();
+        eighthObject();
         passingElements();
         madeSince();
         commit();
@@ -197,6 +198,24 @@ final class TransactionEdgeTest extends Support {
             due("shared as at BEGIN", card.traits(2, 0), 8 + 2 - 2 * passing + 1);
             dueReturned("the wall is not there", card, 2, 0, 1);
         }
+    }
+
+    /** An object is no other for having been made while seven were held. */
+    private static void eighthObject() {
+        sentence("all elements of lasting objects and what is shared what they were at BEGIN");
+        TearSafeCard card = new TearSafeCard(250);
+        fillRoots(card);
+        loadGood(card, 0, 0, true, PUSH, 1, NEW, 0, PUSH, 4, NEW, 0, SETROOT, 0, ROOT, 0, PUSH, 3, PUSH, 17, PUT, 0, LOAD, 0, RETURN, 0);
+        dueReturned("an eighth object", card, 0, 0, 0);
+        loadGood(card, 0, 0, true, BEGIN, 0, ROOT, 0, DUP, 0, SHARE, 0, PUSH, 3, LOAD, 0, PUT, 0, LOAD, 0, RETURN, 0);
+        dueReturned("a transaction that is undone", card, 0, 9, 9);
+        due("its element", card.element(0, 0, 3), 17);
+        due("private", card.traits(0, 0), 2);
+        loadGood(card, 0, 1, true, ROOT, 0, SHARE, 0, LOAD, 0, RETURN, 0);
+        dueReturned("SHARE", card, 1, 0, 0);
+        dueReturned("a transaction that is undone", card, 0, 9, 9);
+        due("its element", card.element(0, 0, 3), 17);
+        due("shared", card.traits(0, 0), 3);
     }
 
     private static void passingElements() {
