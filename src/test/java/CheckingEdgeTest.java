@@ -180,6 +180,15 @@ final class CheckingEdgeTest extends Support {
             LOAD, 1, DUP, 0, DROP, 0, DROP, 0, PUSH, 1, RETURN, 0);
         bad("what is either is no number", LOAD, 0, JZERO, 4, NULL, 0, JUMP, 5, PUSH, 1, STORE, 1, LOAD, 1, RETURN, 0);
         bad("what is either is no reference", LOAD, 0, JZERO, 4, NULL, 0, JUMP, 5, PUSH, 1, STORE, 1, LOAD, 1, LENGTH, 0, RETURN, 0);
+        for (int local = 0; local < 2; local++) {
+            int[] twoKinds = {LOAD, 0, JZERO, 5, NULL, 0, STORE, local, JUMP, 7, PUSH, 1, STORE, local};
+            good("a local that is either, not loaded", join(twoKinds, code(PUSH, 1, RETURN, 0)));
+            good("a local that is either, loaded and dropped", join(twoKinds, code(LOAD, local, DROP, 0, PUSH, 1, RETURN, 0)));
+            good("a local that is either, loaded and stored", join(twoKinds, code(LOAD, local, STORE, 1 - local, PUSH, 1, RETURN, 0)));
+            good("a local that is either, set anew", join(twoKinds, code(PUSH, 1, STORE, local, LOAD, local, RETURN, 0)));
+            bad("a local that is either is no number", join(twoKinds, code(LOAD, local, RETURN, 0)));
+            bad("a local that is either is no reference", join(twoKinds, code(LOAD, local, SHARE, 0, PUSH, 1, RETURN, 0)));
+        }
     }
 
     /** What an instruction leaves is asked for by the next ones: RETURN takes a number, SHARE a reference. */
@@ -235,6 +244,9 @@ final class CheckingEdgeTest extends Support {
         bad("set on the way to b alone", LOAD, 0, JZERO, 3, JUMP, 5, PUSH, 1, STORE, 1, LOAD, 1, RETURN, 0);
         good("set on both ways", LOAD, 0, JZERO, 5, PUSH, 1, STORE, 1, JUMP, 7, PUSH, 2, STORE, 1, LOAD, 1, RETURN, 0);
         good("set on neither way and not loaded", LOAD, 0, JZERO, 3, BEGIN, 0, LOAD, 0, RETURN, 0);
+        good("set on the way on alone and not loaded", LOAD, 0, JZERO, 4, PUSH, 1, STORE, 1, LOAD, 0, RETURN, 0);
+        good("set on the way to b alone and not loaded", LOAD, 0, JZERO, 3, JUMP, 5, PUSH, 1, STORE, 1, LOAD, 0, RETURN, 0);
+        good("set on one way alone, and then on both", LOAD, 0, JZERO, 4, PUSH, 1, STORE, 1, PUSH, 2, STORE, 1, LOAD, 1, RETURN, 0);
         bad("set behind the LOAD, and then round", LOAD, 1, STORE, 1, JUMP, 0);
         bad("set by a later round, not by the first", LOAD, 0, JZERO, 5, PUSH, 1, STORE, 1, JUMP, 0, LOAD, 1, RETURN, 0);
         bad("a LOAD to drop", LOAD, 1, DROP, 0, LOAD, 0, RETURN, 0);

@@ -267,6 +267,10 @@ final class RunEdgeTest extends Support {
         due("the pending code", card.put(RETURN, 0), 2);
         due("the pending code", card.install(2, 0, true), 2);
         dueReturned("a method", card, 3, 18, 18);
+        loadGood(card, 1, 1, true, BEGIN, 0, BEGIN, 0, JUMP, 2);
+        dueFailed("a failing run", card, 3, 0, TearSafeCard.NESTING, 1);
+        card.reset();
+        due("where it failed", card.place(), 16 * 3 + 1);
         due("a new card", emptyAfterReset(), true);
     }
 
