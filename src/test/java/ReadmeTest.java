@@ -16,6 +16,9 @@ final class ReadmeTest extends Support {
         "int run(int applet, int method, int arg)", "int result()", "int place()", "int tear(int n)", "void reset()",
         "int length(int applet, int root)", "int element(int applet, int root, int index)", "int traits(int applet, int root)",
         "boolean same(int a, int b)", "int held()"};
+    private static final String[] INSTRUCTIONS = {
+        "PUSH", "LOAD", "STORE", "ADD", "SUB", "MUL", "LESS", "JUMP", "JZERO", "ROOT", "SETROOT", "NEW", "GET", "PUT", "SHARE",
+        "LENGTH", "FOREIGN", "NULL", "CALL", "RETURN", "DUP", "DROP", "BEGIN", "COMMIT", "ABORT"};
     private static final Pattern EXAMPLE = Pattern.compile("```java\n(.*?)```", Pattern.DOTALL);
     private static final Pattern MAKING = Pattern.compile("TearSafeCard card = new TearSafeCard\\((\\d+)\\);");
     private static final Pattern CALL = Pattern.compile("card\\.(\\w+)\\((.*)\\); +// (-?\\w+)(?:[:, ].*)?");
@@ -28,6 +31,10 @@ final class ReadmeTest extends Support {
         for (Field field : TearSafeCard.class.getFields()) {
             String row = "\n| `" + field.getName() + "` " + field.getInt(null) + " | ";
             due("README.md has a row for " + field.getName(), readme.contains(row), true);
+        }
+        for (int op = 0; op < INSTRUCTIONS.length; op++) {
+            Pattern row = Pattern.compile("^\\|([^|]*,)? " + op + " " + INSTRUCTIONS[op] + "[ ,]", Pattern.MULTILINE);
+            due("README.md has a row for " + INSTRUCTIONS[op], row.matcher(readme).find(), true);
         }
         due("README.md says how to run the tests", readme.contains("\n    .ci/run\n"), true);
         testsAreNamed(readme);
